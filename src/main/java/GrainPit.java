@@ -618,9 +618,7 @@ public final class GrainPit {
             int part = Math.min(left, best.lots);
             int buyer = buy ? member : best.member;
             int seller = buy ? best.member : member;
-            Trade deal = new Trade(month, best.price, part, buyer, seller);
-            deal.day = today;
-            trades.add(deal);
+            trades.add(new Trade(month, best.price, part, buyer, seller, today));
             exchange(buyer, seller, month, part, best.price);
             left -= part;
             best.lots -= part;
@@ -821,15 +819,16 @@ public final class GrainPit {
         final int lots;
         final int buyer;
         final int seller;
-        int day;
+        final int day;
         boolean struck;
 
-        Trade(int month, int price, int lots, int buyer, int seller) {
+        Trade(int month, int price, int lots, int buyer, int seller, int day) {
             this.month = month;
             this.price = price;
             this.lots = lots;
             this.buyer = buyer;
             this.seller = seller;
+            this.day = day;
         }
     }
 
@@ -1328,7 +1327,11 @@ public final class GrainPit {
             if (at >= length) {
                 kind = END;
             } else if (isLetter(tape[at])) {
-                readLetters();
+                while (at < length && isLetter(tape[at])) {
+                    at++;
+                }
+                kind = wordFrom(place, at);
+                refuseIf(kind == NONE, BAD_TOKEN);
             } else if (isDigit(tape[at])) {
                 readNumber();
             } else if (SIGNS.indexOf(tape[at]) >= 0) {
@@ -1337,14 +1340,6 @@ public final class GrainPit {
             } else {
                 refuseIf(true, BAD_TOKEN);
             }
-        }
-
-        private void readLetters() {
-            while (at < length && isLetter(tape[at])) {
-                at++;
-            }
-            kind = wordFrom(place, at);
-            refuseIf(kind == NONE, BAD_TOKEN);
         }
 
         private void readNumber() {

@@ -13,6 +13,7 @@ public final class OrdersTest {
         refusedByCap();
         capKnowsItsWords();
         refusedByNumber();
+        sevenHundredTrades();
         reasonsInTheirOrder();
         fillsByPriceAndTime();
         fillsBids();
@@ -193,6 +194,25 @@ public final class OrdersTest {
         pit.night();
         Check.is("none waits", pit.count(3), 0);
         Check.is("room again", pit.order(0, true, 0, 5, 1), 0);
+    }
+
+    /** Takes more calls than are promised: fewer can't reach 700 trades, and the limit stands all the same. */
+    private static void sevenHundredTrades() {
+        GrainPit pit = Check.withMembers(2);
+        for (int i = 0; i < 699; i++) {
+            if (i % 50 == 0) {
+                pit.order(0, false, 0, 100, 50);
+            }
+            Check.is("trade " + i, pit.order(1, true, 0, 100, 1), 1);
+        }
+        Check.is("a second offer", pit.order(0, false, 0, 100, 2), 0);
+        Check.is("one trade more", pit.order(1, true, 0, 101, 5), 1);
+        Check.is("700 trades", pit.count(2), 700);
+        Check.is("what is left is gone", pit.waiting(true, 0, 0, 0), GrainPit.NONE);
+        Check.is("the second offer waits", pit.waiting(false, 0, 0, 2), 2);
+        Check.is("no order more", pit.order(1, true, 0, 50, 1), -6);
+        Check.is("no order more", pit.order(1, true, 0, 100, 1), -6);
+        Check.is("as it was", pit.count(2), 700);
     }
 
     private static void reasonsInTheirOrder() {

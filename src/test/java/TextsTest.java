@@ -125,6 +125,8 @@ public final class TextsTest {
         Check.isFault(pit, "cap from 1 is !;", 1, 14);
         Check.isFault(pit, "capx from 1 is 3;", 1, 0);
         Check.isFault(pit, "ca from 1 is 3;", 1, 0);
+        Check.isFault(pit, "capz from 1 is 3;", 1, 0);
+        Check.isFault(pit, "capa from 1 is 3;", 1, 0);
         Check.isFault(pit, "cap fromx 1 is 3;", 1, 4);
         Check.isFault(pit, "cap from 1 iss 3;", 1, 11);
         Check.isFault(pit, "cap from 1 is lot;", 1, 14);
