@@ -323,13 +323,13 @@ public final class GrainPit {
                 || paper.owner != member || notices.size() >= MOST_NOTICES) {
             return NONE;
         }
-        Month place = months[month];
-        if (!place.closed || latestPrice(month) == 0 || place.longs.isEmpty()
+        Month due = months[month];
+        if (!due.closed || latestPrice(month) == 0 || due.longs.isEmpty()
                 || heldOf(member, month) >= -giver.positions[month]) {
             return NONE;
         }
         paper.free = false;
-        notices.add(new Notice(member, month, receipt, place.longs.get(0).member));
+        notices.add(new Notice(member, month, receipt, due.longs.get(0).member));
         return notices.size() - 1;
     }
 
@@ -902,7 +902,7 @@ public final class GrainPit {
             int left = lots;
             int at = 0;
             int all = longs.size();
-            for (int n = 0; n < all && left > 0; n++) {
+            for (int n = 0; n < all && left > 0 && at < longs.size(); n++) {
                 Stake stake = longs.get(at);
                 int part = stake.member == member ? Math.min(left, stake.lots) : 0;
                 left -= part;

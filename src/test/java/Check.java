@@ -33,7 +33,7 @@ final class Check {
     }
 
     /** Lays a text on an empty tape; characters are bytes. */
-    static void lay(GrainPit pit, String text) {
+    static void lay(Pit pit, String text) {
         for (int i = 0; i < text.length(); i += 20) {
             int[] five = new int[5];
             for (int k = 0; k < 20; k++) {
@@ -45,13 +45,13 @@ final class Check {
         pit.end(text.length());
     }
 
-    static int tell(GrainPit pit, String text) {
+    static int tell(Pit pit, String text) {
         lay(pit, text);
         return pit.rules();
     }
 
     /** The text is refused with this fault at this place, and leaves the rules as they were. */
-    static void isFault(GrainPit pit, String text, int fault, int place) {
+    static void isFault(Pit pit, String text, int fault, int place) {
         int before = pit.count(4);
         is("rules() of '" + text + "'", tell(pit, text), GrainPit.NONE);
         is("fault(0) of '" + text + "'", pit.fault(0), fault);
@@ -60,8 +60,8 @@ final class Check {
         is("count(8) behind '" + text + "'", pit.count(8), 0);
     }
 
-    static GrainPit withMembers(int many) {
-        GrainPit pit = new GrainPit();
+    static Pit withMembers(int many) {
+        Pit pit = new Pit();
         for (int i = 0; i < many; i++) {
             pit.member();
         }
@@ -69,7 +69,7 @@ final class Check {
     }
 
     /** The buyer buys from the seller, both by orders at one price. */
-    static void deal(GrainPit pit, int buyer, int seller, int month, int lots, int price) {
+    static void deal(Pit pit, int buyer, int seller, int month, int lots, int price) {
         is("order of seller " + seller, pit.order(seller, false, month, price, lots), 0);
         is("order of buyer " + buyer, pit.order(buyer, true, month, price, lots), lots);
     }

@@ -29,7 +29,7 @@ public final class DeliveryTest {
     }
 
     private static void closing() {
-        GrainPit pit = Check.withMembers(2);
+        Pit pit = Check.withMembers(2);
         pit.order(0, true, 1, 50, 1);
         pit.order(1, false, 1, 60, 1);
         pit.order(1, false, 2, 60, 1);
@@ -51,7 +51,7 @@ public final class DeliveryTest {
     }
 
     private static void receipts() {
-        GrainPit pit = Check.withMembers(2);
+        Pit pit = Check.withMembers(2);
         Check.is("member 2", pit.receipt(2, 0, 0), GrainPit.NONE);
         Check.is("member -1", pit.receipt(-1, 0, 0), GrainPit.NONE);
         Check.is("grade 4", pit.receipt(0, 4, 0), GrainPit.NONE);
@@ -67,8 +67,8 @@ public final class DeliveryTest {
     }
 
     /** Month 2 is closed with SETTLE 100: 0 is short 5; LONGS: 1 has 2, 2 has 3; receipts 0 to 4 are 0's. */
-    private static GrainPit closedMonth(String rules) {
-        GrainPit pit = Check.withMembers(4);
+    private static Pit closedMonth(String rules) {
+        Pit pit = Check.withMembers(4);
         if (!rules.isEmpty()) {
             Check.is("rules", Check.tell(pit, rules) > 0, true);
         }
@@ -86,7 +86,7 @@ public final class DeliveryTest {
     }
 
     private static void noticeGoesToTheFirstLong() {
-        GrainPit pit = closedMonth("");
+        Pit pit = closedMonth("");
         Check.is("notice", pit.notice(0, 2, 3), 0);
         Check.is("held", pit.told(0, 0), 1);
         Check.is("by 1", pit.told(0, 1), 1);
@@ -104,7 +104,7 @@ public final class DeliveryTest {
     }
 
     private static void noticeRefuses() {
-        GrainPit open = Check.withMembers(3);
+        Pit open = Check.withMembers(3);
         open.receipt(0, 0, 0);
         Check.deal(open, 1, 0, 0, 2, 100);
         Check.is("open, no SETTLE", open.notice(0, 0, 0), GrainPit.NONE);
@@ -112,7 +112,7 @@ public final class DeliveryTest {
         Check.is("closed, no SETTLE", open.notice(0, 0, 0), GrainPit.NONE);
         open.night();
         Check.is("closed, with SETTLE", open.notice(0, 0, 0), 0);
-        GrainPit pit = closedMonth("");
+        Pit pit = closedMonth("");
         pit.receipt(1, 0, 0);
         pit.receipt(3, 0, 0);
         Check.is("month -1", pit.notice(0, -1, 0), GrainPit.NONE);
@@ -141,7 +141,7 @@ public final class DeliveryTest {
     }
 
     private static void noticesUpToLotsShort() {
-        GrainPit pit = closedMonth("");
+        Pit pit = closedMonth("");
         for (int i = 5; i < 8; i++) {
             pit.receipt(0, 0, 0);
         }
@@ -159,7 +159,7 @@ public final class DeliveryTest {
         Check.is("of another month", pit.notice(0, 1, 6), 6);
         Check.is("of another month", pit.notice(0, 1, 7), GrainPit.NONE);
         // two shorts count each by itself
-        GrainPit two = Check.withMembers(3);
+        Pit two = Check.withMembers(3);
         Check.deal(two, 2, 0, 0, 1, 50);
         Check.deal(two, 2, 1, 0, 1, 50);
         for (int i = 0; i < 4; i++) {
@@ -174,7 +174,7 @@ public final class DeliveryTest {
     }
 
     private static void eightyNotices() {
-        GrainPit pit = Check.withMembers(2);
+        Pit pit = Check.withMembers(2);
         Check.deal(pit, 1, 0, 0, 50, 10);
         Check.deal(pit, 1, 0, 0, 10, 10);
         Check.deal(pit, 0, 1, 1, 30, 10);
@@ -197,7 +197,7 @@ public final class DeliveryTest {
 
     private static void passing() {
         // LONGS of month 0: 1 2 1 3 2; 0 is short
-        GrainPit pit = Check.withMembers(5);
+        Pit pit = Check.withMembers(5);
         for (int buyer : new int[] {1, 2, 1, 3, 2}) {
             Check.deal(pit, buyer, 0, 0, 1, 100);
         }
@@ -224,7 +224,7 @@ public final class DeliveryTest {
     }
 
     private static void passingPaysFee() {
-        GrainPit pit = Check.withMembers(4);
+        Pit pit = Check.withMembers(4);
         Check.tell(pit, "fee from 0 is 1 + day * 100 + month * 10 + lots * 3 + price + grade + place;");
         for (int buyer = 1; buyer < 4; buyer++) {
             Check.deal(pit, buyer, 0, 2, 1, 100);
@@ -243,7 +243,7 @@ public final class DeliveryTest {
         Check.is("3 has it", pit.money(3, 0), 224);
         Check.is("refused", pit.pass(0), GrainPit.NONE);
         Check.is("3 pays nothing", pit.money(3, 0), 224);
-        GrainPit other = Check.withMembers(3);
+        Pit other = Check.withMembers(3);
         Check.tell(other, "fee from 0 is -5;");
         Check.deal(other, 1, 0, 0, 1, 100);
         Check.deal(other, 2, 0, 0, 1, 100);
@@ -258,7 +258,7 @@ public final class DeliveryTest {
 
     private static void passingWithoutALong() {
         // LONGS: 1 one lot, 2 one, 3 one; two notices go to 1, it keeps one and has no LONG then
-        GrainPit pit = Check.withMembers(4);
+        Pit pit = Check.withMembers(4);
         for (int buyer = 1; buyer < 4; buyer++) {
             Check.deal(pit, buyer, 0, 0, 1, 100);
         }
@@ -281,7 +281,7 @@ public final class DeliveryTest {
     }
 
     private static void passRefuses() {
-        GrainPit pit = closedMonth("");
+        Pit pit = closedMonth("");
         Check.is("pass(0)", pit.pass(0), GrainPit.NONE);
         Check.is("pass(-1)", pit.pass(-1), GrainPit.NONE);
         pit.notice(0, 2, 0);
@@ -291,7 +291,7 @@ public final class DeliveryTest {
     }
 
     private static void keeping() {
-        GrainPit pit = closedMonth("");
+        Pit pit = closedMonth("");
         pit.notice(0, 2, 1);
         pit.pass(0);
         Check.is("keep", pit.keep(0), 1);
@@ -313,7 +313,7 @@ public final class DeliveryTest {
     }
 
     private static void keepingPaysDiff() {
-        GrainPit pit = closedMonth("diff from 0 is day * 1000 + month * 100 + price + grade * 10 - place + lots;");
+        Pit pit = closedMonth("diff from 0 is day * 1000 + month * 100 + price + grade * 10 - place + lots;");
         // receipt 1 is of grade 1 and place 2
         pit.notice(0, 2, 1);
         pit.keep(0);
@@ -332,7 +332,7 @@ public final class DeliveryTest {
     }
 
     private static void keptByWhatIsKnown() {
-        GrainPit pit = closedMonth("");
+        Pit pit = closedMonth("");
         pit.notice(0, 2, 1);
         pit.right(2, 0, 130);
         pit.keep(0);
@@ -343,7 +343,7 @@ public final class DeliveryTest {
 
     private static void voidByTheKeeper() {
         // 1 has one lot and two notices
-        GrainPit pit = Check.withMembers(3);
+        Pit pit = Check.withMembers(3);
         Check.deal(pit, 1, 0, 0, 1, 100);
         Check.deal(pit, 2, 0, 0, 1, 100);
         pit.receipt(0, 0, 0);
@@ -368,7 +368,7 @@ public final class DeliveryTest {
 
     private static void voidByTheShort() {
         // the short comes into default while its notice is held
-        GrainPit pit = Check.withMembers(3);
+        Pit pit = Check.withMembers(3);
         Check.tell(pit, "keep from 1 is 10; first from 1 is 10;");
         pit.pay(1, 1000);
         Check.deal(pit, 1, 0, 0, 2, 100);
@@ -390,7 +390,7 @@ public final class DeliveryTest {
     }
 
     private static void keepRefuses() {
-        GrainPit pit = closedMonth("");
+        Pit pit = closedMonth("");
         Check.is("keep(0)", pit.keep(0), GrainPit.NONE);
         Check.is("keep(-1)", pit.keep(-1), GrainPit.NONE);
         pit.notice(0, 2, 0);
@@ -401,7 +401,7 @@ public final class DeliveryTest {
     }
 
     private static void toldLooks() {
-        GrainPit pit = closedMonth("");
+        Pit pit = closedMonth("");
         pit.notice(0, 2, 3);
         pit.pass(0);
         int[] due = {1, 2, 0, 3, 1, 2};
@@ -415,7 +415,7 @@ public final class DeliveryTest {
     }
 
     private static void storedLooks() {
-        GrainPit pit = Check.withMembers(3);
+        Pit pit = Check.withMembers(3);
         pit.receipt(1, 0, 3);
         pit.receipt(2, 3, 1);
         int[] due = {3, 1, 2, 1};
@@ -429,7 +429,7 @@ public final class DeliveryTest {
         Check.is("stored(-1, 0)", pit.stored(-1, 0), GrainPit.NONE);
     }
 
-    private static void isSqueeze(GrainPit pit, int month, int due, int corner, int can, int squeezed) {
+    private static void isSqueeze(Pit pit, int month, int due, int corner, int can, int squeezed) {
         Check.is("DUE", pit.squeeze(month, 1), due);
         Check.is("CORNER", pit.squeeze(month, 2), corner);
         Check.is("CAN", pit.squeeze(month, 3), can);
@@ -437,7 +437,7 @@ public final class DeliveryTest {
     }
 
     private static void squeezes() {
-        GrainPit pit = Check.withMembers(4);
+        Pit pit = Check.withMembers(4);
         isSqueeze(pit, 0, 0, GrainPit.NONE, 0, 0);
         pit.receipt(1, 0, 0);
         pit.receipt(2, 0, 0);
@@ -454,7 +454,7 @@ public final class DeliveryTest {
 
     private static void squeezeEdges() {
         // DUE is 2, and 2 receipts can come: not squeezed; one that is not free makes it so
-        GrainPit pit = Check.withMembers(3);
+        Pit pit = Check.withMembers(3);
         Check.deal(pit, 1, 0, 0, 2, 100);
         pit.receipt(0, 0, 0);
         isSqueeze(pit, 0, 2, 1, 1, 1);
@@ -469,7 +469,7 @@ public final class DeliveryTest {
         pit.keep(0);
         isSqueeze(pit, 0, 1, 1, 1, 0);
         // 2 of 3 is more than half, 2 of 4 is not
-        GrainPit half = Check.withMembers(4);
+        Pit half = Check.withMembers(4);
         Check.deal(half, 1, 0, 0, 2, 100);
         Check.deal(half, 2, 0, 0, 1, 100);
         isSqueeze(half, 0, 3, 1, 0, 1);
@@ -478,7 +478,7 @@ public final class DeliveryTest {
     }
 
     private static void squeezeRefuses() {
-        GrainPit pit = Check.withMembers(1);
+        Pit pit = Check.withMembers(1);
         Check.is("squeeze(6, 0)", pit.squeeze(6, 0), GrainPit.NONE);
         Check.is("squeeze(-1, 0)", pit.squeeze(-1, 0), GrainPit.NONE);
         Check.is("squeeze(0, 5)", pit.squeeze(0, 5), GrainPit.NONE);

@@ -65,12 +65,11 @@ public final class FaceTest {
     }
 
     private static void newObject() {
-        GrainPit pit = new GrainPit();
+        Pit pit = new Pit();
         for (int what = 0; what <= 8; what++) {
             Check.is("count(" + what + ") when new", pit.count(what), 0);
         }
         Check.is("fault(0) when new", pit.fault(0), 0);
-        Check.is("fault(1) when new", pit.fault(1), 0);
         int[] without = {1000, 0, 0, 1000, 0, 0};
         for (int name = 0; name < 6; name++) {
             Check.is("rule " + name + " when new", pit.rule(name, 7, 1, 2, 3, 1, 1), without[name]);
@@ -89,10 +88,10 @@ public final class FaceTest {
     }
 
     private static void objectsAreApart() {
-        GrainPit one = Check.withMembers(2);
+        Pit one = Check.withMembers(2);
         Check.deal(one, 0, 1, 0, 3, 10);
         Check.tell(one, "cap from 0 is 5;");
-        GrainPit other = new GrainPit();
+        Pit other = new Pit();
         Check.is("members of another object", other.count(1), 0);
         Check.is("trades of another object", other.count(2), 0);
         Check.is("rules of another object", other.count(4), 0);

@@ -18,7 +18,7 @@ public final class LooksTest {
     }
 
     private static void money() {
-        GrainPit pit = Check.withMembers(3);
+        Pit pit = Check.withMembers(3);
         pit.pay(1, 500);
         Check.is("paid", pit.money(1, 0), 500);
         Check.is("worth", pit.money(1, 1), 500);
@@ -37,7 +37,7 @@ public final class LooksTest {
     }
 
     private static void needsByNow() {
-        GrainPit pit = Check.withMembers(2);
+        Pit pit = Check.withMembers(2);
         Check.tell(pit, "first from 0 is 2 + day * 1000 + month * 100 + price + lots + grade + place;"
                 + "keep from 0 is 1 - day * 1000;");
         Check.deal(pit, 0, 1, 1, 4, 50);
@@ -58,7 +58,7 @@ public final class LooksTest {
     }
 
     private static void worthByLatestSettle() {
-        GrainPit pit = Check.withMembers(2);
+        Pit pit = Check.withMembers(2);
         pit.pay(0, 1000);
         Check.deal(pit, 0, 1, 0, 3, 100);
         Check.is("no SETTLE counts 0", pit.money(0, 1), 700);
@@ -78,7 +78,7 @@ public final class LooksTest {
     }
 
     private static void moneyRefuses() {
-        GrainPit pit = Check.withMembers(2);
+        Pit pit = Check.withMembers(2);
         Check.isMissing("money(2, 0)", () -> pit.money(2, 0));
         Check.isMissing("money(-1, 0)", () -> pit.money(-1, 0));
         Check.isMissing("money(0, 7)", () -> pit.money(0, 7));
@@ -87,7 +87,7 @@ public final class LooksTest {
     }
 
     private static void positions() {
-        GrainPit pit = Check.withMembers(3);
+        Pit pit = Check.withMembers(3);
         Check.is("none", pit.position(0, 5), 0);
         Check.deal(pit, 0, 1, 5, 3, 100);
         Check.deal(pit, 1, 2, 5, 5, 100);
@@ -101,7 +101,7 @@ public final class LooksTest {
         Check.isMissing("position(0, -1)", () -> pit.position(0, -1));
     }
 
-    private static void isRow(GrainPit pit, int month, int... row) {
+    private static void isRow(Pit pit, int month, int... row) {
         for (int i = 0; i < row.length; i += 2) {
             Check.is("LONG " + i / 2 + " member", pit.longOf(month, i / 2, 0), row[i]);
             Check.is("LONG " + i / 2 + " lots", pit.longOf(month, i / 2, 1), row[i + 1]);
@@ -110,7 +110,7 @@ public final class LooksTest {
     }
 
     private static void longsInOrder() {
-        GrainPit pit = Check.withMembers(4);
+        Pit pit = Check.withMembers(4);
         Check.deal(pit, 0, 3, 0, 2, 100);
         Check.deal(pit, 1, 3, 0, 3, 100);
         Check.deal(pit, 0, 3, 0, 4, 100);
@@ -128,7 +128,7 @@ public final class LooksTest {
     }
 
     private static void longsCoverShortsFirst() {
-        GrainPit pit = Check.withMembers(3);
+        Pit pit = Check.withMembers(3);
         Check.deal(pit, 0, 1, 0, 5, 100);
         Check.deal(pit, 1, 2, 0, 3, 100);
         isRow(pit, 0, 0, 5);
@@ -146,7 +146,7 @@ public final class LooksTest {
     }
 
     private static void longsRefuse() {
-        GrainPit pit = Check.withMembers(2);
+        Pit pit = Check.withMembers(2);
         Check.deal(pit, 0, 1, 0, 2, 100);
         Check.is("what 2", pit.longOf(0, 0, 2), GrainPit.NONE);
         Check.is("what -1", pit.longOf(0, 0, -1), GrainPit.NONE);
@@ -157,7 +157,7 @@ public final class LooksTest {
     }
 
     private static void counts() {
-        GrainPit pit = Check.withMembers(4);
+        Pit pit = Check.withMembers(4);
         Check.tell(pit, "cap from 0 is 500; fee from 0 is 1;fee from 1 is 1;");
         Check.deal(pit, 0, 1, 0, 2, 100);
         Check.deal(pit, 2, 1, 0, 2, 100);
@@ -184,7 +184,7 @@ public final class LooksTest {
     }
 
     private static void equityIsMoneyPaid() {
-        GrainPit pit = Check.withMembers(4);
+        Pit pit = Check.withMembers(4);
         long paid = 0;
         for (int i = 0; i < 4; i++) {
             paid = paid + 100 * i;

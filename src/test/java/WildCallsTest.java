@@ -23,7 +23,10 @@ public final class WildCallsTest {
                 .sorted(Comparator.comparing(Method::getName)).toArray(Method[]::new);
         Random random = new Random(11);
         for (int run = 0; run < 400; run++) {
-            GrainPit pit = Check.withMembers(random.nextInt(13));
+            GrainPit pit = new GrainPit();
+            for (int members = random.nextInt(13); members > 0; members--) {
+                pit.member();
+            }
             for (int i = 0; i < 480; i++) {
                 call(random, pit, face[random.nextInt(face.length)]);
             }
