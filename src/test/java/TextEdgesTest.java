@@ -122,6 +122,8 @@ public final class TextEdgesTest {
         Check.isFault(new Pit(), " ".repeat(599) + "?", 2, 599);
         Check.isFault(new Pit(), " ".repeat(599) + "1", 2, 599);
         Check.isFault(new Pit(), " ".repeat(597) + "fee", 2, 600);
+        Check.isFault(new Pit(), " ".repeat(598) + "fe", 1, 598);
+        Check.isFault(new Pit(), " ".repeat(599) + "f", 1, 599);
         Check.isFault(new Pit(), "a".repeat(600), 1, 0);
         Check.isFault(new Pit(), "9".repeat(600), 1, 0);
         Pit zeros = new Pit();
